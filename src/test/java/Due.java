@@ -75,6 +75,10 @@ final class Due {
         is("mark past the end", x.routerInfo(marks.length, NeighborCache.ROUTER_MARK), -1);
     }
 
+    boolean allRight() {
+        return wrong == 0;
+    }
+
     void end() {
         System.out.println(wrong == 0 ? "all answers are as due" : wrong + " answers are not as due");
         if (wrong != 0) {

@@ -12,6 +12,8 @@ public final class Promise04SendTest {
         evictsTheOldestResolved();
         dropsWhenCreationFails();
         dropsButKeepsTheMarkReset();
+        fillsEveryQueueOfTheLargestCache();
+        resetsTheMarksOfAFullList();
         mayResolveAnOwnAddress();
         due.end();
     }
@@ -182,6 +184,42 @@ public final class Promise04SendTest {
         due.is("dropped()", x.dropped(), 2);
         due.is("frameCount()", x.frameCount(), frames);
         due.cache(x, 1, 2);
+    }
+
+    private static void fillsEveryQueueOfTheLargestCache() {
+        NeighborCache x = new NeighborCache(16, 10, 2, 3);
+        for (int a = 1; a <= 16; a++) {
+            for (int i = 0; i < 5; i++) {
+                x.send(a, false);
+            }
+        }
+        for (int a = 1; a <= 16; a++) {
+            due.queue(x, a, a * 5 - 2, a * 5 - 1, a * 5);
+        }
+        due.is("dropped()", x.dropped(), 32);
+        due.is("send without room", x.send(17, false), 81);
+        due.is("dropped() without room", x.dropped(), 33);
+        x.receiveNA(1, 10, NeighborCache.FLAG_SOLICITED);
+        due.is("send with the oldest resolved", x.send(17, false), 82);
+        for (int a = 2; a <= 16; a++) {
+            due.is("entryAt(" + (a - 2) + ")", x.entryAt(a - 2), a);
+            due.queue(x, a, a * 5 - 2, a * 5 - 1, a * 5);
+        }
+        due.is("entryAt(15)", x.entryAt(15), 17);
+        due.queue(x, 17, 82);
+    }
+
+    private static void resetsTheMarksOfAFullList() {
+        NeighborCache x = new NeighborCache(4, 10, 1, 1);
+        for (int r = 1; r <= 4; r++) {
+            x.addRouter(r);
+            x.send(r, false);
+        }
+        x.tick();
+        due.marks(x, 1, 1, 1, 1);
+        due.is("send with all four marked", x.send(30, true), 5);
+        due.marks(x, 0, 0, 0, 0);
+        due.cache(x, 1);
     }
 
     private static void mayResolveAnOwnAddress() {

@@ -11,8 +11,10 @@ public final class Promise08TickTest {
         failsSeveralInOneTick();
         marksFailedRouters();
         probesOwnAddresses();
+        probesEightOwnAddresses();
         leavesSettledOwnAddresses();
         emitsInOrder();
+        handlesEachEntryOnce();
         due.end();
     }
 
@@ -163,6 +165,22 @@ public final class Promise08TickTest {
         due.is("frames of one probe", x.frameCount(), 1);
     }
 
+    private static void probesEightOwnAddresses() {
+        NeighborCache x = Make.plain();
+        for (int a = 1; a <= 8; a++) {
+            x.addAddress(a);
+        }
+        Make.ticks(x, 5);
+        for (int a = 1; a <= 8; a++) {
+            due.own(x, a, NeighborCache.TENTATIVE, 1, 3);
+        }
+        x.tick();
+        for (int a = 1; a <= 8; a++) {
+            due.own(x, a, NeighborCache.PREFERRED, 0, 3);
+        }
+        due.is("frames of eight", x.frameCount(), 24);
+    }
+
     private static void leavesSettledOwnAddresses() {
         NeighborCache x = Make.plain();
         Make.preferred(x, 5);
@@ -189,5 +207,33 @@ public final class Promise08TickTest {
         due.frame(x, n + 2, NeighborCache.NS_UNI, 7, 70, 0, 7);
         due.frame(x, n + 3, NeighborCache.NS_DAD, 6, 0, 0, 0);
         due.frame(x, n + 4, NeighborCache.NS_DAD, 5, 0, 0, 0);
+    }
+
+    // Whatever the tick does to an entry, the one behind it must age by one.
+    private static void handlesEachEntryOnce() {
+        NeighborCache x = new NeighborCache(16, 10, 5, 3);
+        Make.stale(x, 1, 10);
+        Make.reachable(x, 2, 20);
+        Make.ticks(x, 4);
+        Make.delay(x, 3, 30);
+        x.send(4, false);
+        Make.reachable(x, 5, 50);
+        x.tick();
+        Make.reachable(x, 6, 60);
+        Make.ticks(x, 4);
+        due.entry(x, 1, NeighborCache.STALE, 10, 0, 0, 0);
+        due.entry(x, 2, NeighborCache.REACHABLE, 20, 0, 1, 0);
+        due.entry(x, 3, NeighborCache.PROBE, 30, 0, 5, 1);
+        due.entry(x, 4, NeighborCache.INCOMPLETE, 0, 1, 5, 2);
+        due.entry(x, 5, NeighborCache.REACHABLE, 50, 0, 5, 0);
+        due.entry(x, 6, NeighborCache.REACHABLE, 60, 0, 6, 0);
+        x.tick();
+        due.entry(x, 1, NeighborCache.STALE, 10, 0, 0, 0);
+        due.entry(x, 2, NeighborCache.STALE, 20, 0, 0, 0);
+        due.entry(x, 3, NeighborCache.PROBE, 30, 0, 4, 1);
+        due.entry(x, 4, NeighborCache.INCOMPLETE, 0, 1, 4, 2);
+        due.entry(x, 5, NeighborCache.REACHABLE, 50, 0, 4, 0);
+        due.entry(x, 6, NeighborCache.REACHABLE, 60, 0, 5, 0);
+        due.cache(x, 1, 2, 3, 4, 5, 6);
     }
 }
