@@ -43,4 +43,17 @@ final class Make {
         x.addAddress(a);
         ticks(x, 6);
     }
+
+    // An entry in any of the states behind INCOMPLETE; time passes for PROBE.
+    static void inState(NeighborCache x, int state, int a, int link) {
+        if (state == NeighborCache.REACHABLE) {
+            reachable(x, a, link);
+        } else if (state == NeighborCache.STALE) {
+            stale(x, a, link);
+        } else if (state == NeighborCache.DELAY) {
+            delay(x, a, link);
+        } else {
+            probe(x, a, link);
+        }
+    }
 }

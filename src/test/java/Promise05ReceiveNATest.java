@@ -109,15 +109,7 @@ public final class Promise05ReceiveNATest {
     private static NeighborCache inState(int state) {
         NeighborCache x = Make.plain();
         x.addRouter(9);
-        if (state == NeighborCache.REACHABLE) {
-            Make.reachable(x, 9, 90);
-        } else if (state == NeighborCache.STALE) {
-            Make.stale(x, 9, 90);
-        } else if (state == NeighborCache.DELAY) {
-            Make.delay(x, 9, 90);
-        } else {
-            Make.probe(x, 9, 90);
-        }
+        Make.inState(x, state, 9, 90);
         x.tick();
         due.is("state to start from", x.entryInfo(9, NeighborCache.INFO_STATE), state);
         return x;

@@ -163,15 +163,7 @@ public final class Promise06ReceiveNSTest {
     private static void updatesResolved() {
         for (int state = NeighborCache.REACHABLE; state <= NeighborCache.PROBE; state++) {
             NeighborCache x = withPreferred(4);
-            if (state == NeighborCache.REACHABLE) {
-                Make.reachable(x, 9, 90);
-            } else if (state == NeighborCache.STALE) {
-                Make.stale(x, 9, 90);
-            } else if (state == NeighborCache.DELAY) {
-                Make.delay(x, 9, 90);
-            } else {
-                Make.probe(x, 9, 90);
-            }
+            Make.inState(x, state, 9, 90);
             x.tick();
             int timer = x.entryInfo(9, NeighborCache.INFO_TIMER);
             int probes = x.entryInfo(9, NeighborCache.INFO_PROBES);
