@@ -17,7 +17,14 @@ final class Due {
         is(call, got ? 1 : 0, 0);
     }
 
-    // Views come from View.of.
+    void answer(String call, Object got, Object want) {
+        if (!got.equals(want)) {
+            wrong++;
+            System.out.println(call + " answered " + got + ", due is " + want);
+        }
+    }
+
+    // Views come from View.
     void same(String call, String got, String want) {
         if (!got.equals(want)) {
             wrong++;

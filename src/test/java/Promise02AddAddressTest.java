@@ -1,73 +1,112 @@
-// Promise 2: addAddress.
+// Promise 2: addAddress, and the term own table.
 public final class Promise02AddAddressTest {
     private static final Due due = new Due();
 
     public static void main(String[] args) {
         appendsTentative();
-        refusesInvalid();
+        acceptsTheEndsOfValid();
+        refusesNotValid();
         refusesKnownInAnyState();
+        acceptsTheEighth();
         refusesTheNinth();
+        refusesTheNinthInAnyState();
         leavesTheRestAlone();
         due.end();
     }
 
     private static void appendsTentative() {
         NeighborCache x = new NeighborCache(4, 10, 7, 3);
+        due.yes("addAddress(6)", x.addAddress(6));
+        due.yes("addAddress(5)", x.addAddress(5));
+        due.own(x, 6, NeighborCache.TENTATIVE, 7, 1);
+        due.own(x, 5, NeighborCache.TENTATIVE, 7, 1);
+        due.is("frameCount()", x.frameCount(), 2);
+        due.frame(x, 0, NeighborCache.NS_DAD, 6, 0, 0, 0);
+        due.frame(x, 1, NeighborCache.NS_DAD, 5, 0, 0, 0);
+    }
+
+    // "VALID means 1..65535"
+    private static void acceptsTheEndsOfValid() {
+        NeighborCache x = Make.plain();
         due.yes("addAddress(1)", x.addAddress(1));
         due.yes("addAddress(65535)", x.addAddress(65535));
-        due.own(x, 1, NeighborCache.TENTATIVE, 7, 1);
-        due.own(x, 65535, NeighborCache.TENTATIVE, 7, 1);
-        due.is("frameCount()", x.frameCount(), 2);
-        due.frame(x, 0, NeighborCache.NS_DAD, 1, 0, 0, 0);
+        due.own(x, 1, NeighborCache.TENTATIVE, 2, 1);
+        due.own(x, 65535, NeighborCache.TENTATIVE, 2, 1);
         due.frame(x, 1, NeighborCache.NS_DAD, 65535, 0, 0, 0);
     }
 
-    private static void refusesInvalid() {
-        NeighborCache x = Make.plain();
-        String before = View.of(x);
-        for (int a : new int[] {0, -1, 65536, 65537, Integer.MIN_VALUE, Integer.MAX_VALUE}) {
-            due.no("addAddress(" + a + ")", x.addAddress(a));
+    // "a not valid [...] the call is refused: it answers false and nothing changes"
+    private static void refusesNotValid() {
+        for (int a : Stage.NOT_VALID) {
+            Unchanged.everywhere(due, "addAddress(" + a + ")", false, x -> x.addAddress(a));
         }
-        due.same("refused addAddress", View.of(x), before);
     }
 
+    // "a already in the own table (in any state)"
     private static void refusesKnownInAnyState() {
-        NeighborCache x = Make.plain();
-        Make.preferred(x, 5);
-        x.addAddress(6);
-        x.receiveNA(6, 0, 0);
-        x.addAddress(7);
-        due.own(x, 5, NeighborCache.PREFERRED, 0, 3);
-        due.own(x, 6, NeighborCache.DUPLICATE, 0, 1);
-        String before = View.of(x);
-        due.no("addAddress of a PREFERRED one", x.addAddress(5));
-        due.no("addAddress of a DUPLICATE one", x.addAddress(6));
-        due.no("addAddress of a TENTATIVE one", x.addAddress(7));
-        due.same("refused addAddress", View.of(x), before);
+        for (int state = NeighborCache.TENTATIVE; state <= NeighborCache.DUPLICATE; state++) {
+            int a = Stage.OWN[state];
+            Unchanged.on(Stage.BUSY, due, "addAddress of state " + state, false, x -> x.addAddress(a));
+            Unchanged.on(Stage.FULL, due, "addAddress of state " + state, false, x -> x.addAddress(a));
+        }
     }
 
-    private static void refusesTheNinth() {
+    // "at most 8 own addresses in order of addition"
+    private static void acceptsTheEighth() {
         NeighborCache x = Make.plain();
-        for (int a = 11; a <= 18; a++) {
+        for (int a = 18; a >= 11; a--) {
             due.yes("addAddress(" + a + ")", x.addAddress(a));
         }
-        String before = View.of(x);
-        due.no("addAddress(19)", x.addAddress(19));
-        due.same("the ninth addAddress", View.of(x), before);
-        // a duplicate keeps its place in the table
-        x.receiveNS(0, 11, 0);
-        due.no("addAddress(19) beside a duplicate", x.addAddress(19));
+        due.is("frameCount()", x.frameCount(), 8);
+        Make.ticks(x, 2);
+        for (int i = 0; i < 8; i++) {
+            due.own(x, 18 - i, NeighborCache.TENTATIVE, 2, 2);
+            due.frame(x, 8 + i, NeighborCache.NS_DAD, 18 - i, 0, 0, 0);
+        }
     }
 
-    private static void leavesTheRestAlone() {
+    // "the own table holds 8"
+    private static void refusesTheNinth() {
+        for (int a : new int[] {1, Stage.STRANGER, Stage.ENTRY[1], Stage.FIRST_ROUTER, 65535}) {
+            Unchanged.on(Stage.FULL, due, "addAddress(" + a + ")", false, x -> x.addAddress(a));
+        }
+    }
+
+    // whatever state they are in, 8 are 8
+    private static void refusesTheNinthInAnyState() {
+        for (int state = NeighborCache.TENTATIVE; state <= NeighborCache.DUPLICATE; state++) {
+            int all = state;
+            Unchanged.by(due, "addAddress(19) beside eight in state " + state, false,
+                () -> eightIn(all), x -> x.addAddress(19));
+        }
+    }
+
+    private static NeighborCache eightIn(int state) {
         NeighborCache x = Make.plain();
-        x.addRouter(7);
-        x.send(7, false);
-        due.yes("addAddress of a cached address", x.addAddress(7));
-        due.entry(x, 7, NeighborCache.INCOMPLETE, 0, 1, 2, 1);
-        due.cache(x, 7);
-        due.marks(x, 0);
-        due.is("dropped()", x.dropped(), 0);
-        due.is("next packet id", x.send(8, false), 2);
+        for (int a = 11; a <= 18; a++) {
+            x.addAddress(a);
+            if (state == NeighborCache.DUPLICATE) {
+                x.receiveNA(a, 0, 0);
+            }
+        }
+        Make.ticks(x, state == NeighborCache.PREFERRED ? 6 : 1);
+        due.is("state of the eighth", x.addressInfo(18, NeighborCache.ADDR_STATE), state);
+        return x;
+    }
+
+    // "The cache, router list, packet ids and dropped are not changed."
+    private static void leavesTheRestAlone() {
+        for (Stage stage : new Stage[] {Stage.BUSY, Stage.MARKED}) {
+            for (int a : new int[] {Stage.STRANGER, Stage.ENTRY[NeighborCache.STALE], Stage.FIRST_ROUTER}) {
+                NeighborCache x = stage.make();
+                NeighborCache twin = stage.make();
+                due.yes("addAddress(" + a + ")", x.addAddress(a));
+                due.same("the cache", View.cache(x), View.cache(twin));
+                due.same("the router list", View.routers(x), View.routers(twin));
+                due.is("dropped()", x.dropped(), twin.dropped());
+                due.is("frames by addAddress", x.frameCount(), twin.frameCount() + 1);
+                due.is("next packet id", x.send(51, false), twin.send(51, false));
+            }
+        }
     }
 }

@@ -3,68 +3,133 @@ public final class Promise06ReceiveNSTest {
     private static final Due due = new Due();
 
     public static void main(String[] args) {
-        refuses();
+        refusesTargetNotValid();
+        refusesSourceOutside();
+        refusesLinkOutside();
+        refusesLinkOfUnspecified();
+        acceptsTheEndsOfTheRanges();
         ignoresUnknownAndDuplicate();
+        keepsTentativeWithSource();
         endsTentativeByProbe();
         answersUnspecified();
         answersWithoutLink();
         createsStale();
+        createsOnTheLastPlace();
         evictsForSource();
         answersWhenCreationFails();
         resolvesIncomplete();
-        updatesResolved();
+        flushesAFullQueue();
+        keepsResolvedWithTheSameLink();
+        updatesResolvedWithAnotherLink();
+        leavesOwnTableAndRoutersAlone();
         due.end();
     }
 
-    private static void refuses() {
-        NeighborCache x = Make.plain();
-        Make.preferred(x, 5);
-        x.addAddress(6);
-        String before = View.of(x);
-        for (int bad : new int[] {-1, 65536, Integer.MIN_VALUE, Integer.MAX_VALUE}) {
-            due.no("receiveNS(" + bad + ", 5, 1)", x.receiveNS(bad, 5, 1));
-            due.no("receiveNS(" + bad + ", 5, 0)", x.receiveNS(bad, 5, 0));
-            due.no("receiveNS(9, " + bad + ", 1)", x.receiveNS(9, bad, 1));
-            due.no("receiveNS(9, 5, " + bad + ")", x.receiveNS(9, 5, bad));
-            due.no("receiveNS(0, 6, " + bad + ")", x.receiveNS(0, 6, bad));
+    // "It answers false and changes nothing if: t is not valid"
+    private static void refusesTargetNotValid() {
+        for (int t : Stage.NOT_VALID) {
+            Unchanged.everywhere(due, "receiveNS(9, " + t + ", 1)", false, x -> x.receiveNS(9, t, 1));
+            Unchanged.everywhere(due, "receiveNS(0, " + t + ", 0)", false, x -> x.receiveNS(0, t, 0));
         }
-        due.no("receiveNS(9, 0, 1)", x.receiveNS(9, 0, 1));
-        due.no("receiveNS(0, 0, 0)", x.receiveNS(0, 0, 0));
-        due.no("receiveNS(0, 5, 1)", x.receiveNS(0, 5, 1));
-        due.no("receiveNS(0, 6, 1)", x.receiveNS(0, 6, 1));
-        due.no("receiveNS(0, 7, 1) on a foreign target", x.receiveNS(0, 7, 1));
-        due.same("refused receiveNS", View.of(x), before);
     }
 
+    // Targets of every kind: own in each state, an entry, a router, a stranger.
+    private static final int[] TARGETS = {21, 22, 23, 11, 31, Stage.STRANGER};
+
+    // "or src is outside 0..65535"
+    private static void refusesSourceOutside() {
+        for (int src : Stage.OUTSIDE) {
+            for (int t : TARGETS) {
+                String call = "receiveNS(" + src + ", " + t + ", ";
+                Unchanged.on(Stage.BUSY, due, call + "1)", false, x -> x.receiveNS(src, t, 1));
+                Unchanged.on(Stage.BUSY, due, call + "0)", false, x -> x.receiveNS(src, t, 0));
+                Unchanged.on(Stage.FULL, due, call + "1)", false, x -> x.receiveNS(src, t, 1));
+            }
+        }
+    }
+
+    // "or sl is outside 0..65535"
+    private static void refusesLinkOutside() {
+        for (int sl : Stage.OUTSIDE) {
+            for (int t : TARGETS) {
+                for (int src : new int[] {0, 11, 12, Stage.STRANGER}) {
+                    String call = "receiveNS(" + src + ", " + t + ", " + sl + ")";
+                    Unchanged.on(Stage.BUSY, due, call, false, x -> x.receiveNS(src, t, sl));
+                    Unchanged.on(Stage.FULL, due, call, false, x -> x.receiveNS(src, t, sl));
+                }
+            }
+        }
+    }
+
+    // "or src == 0 and sl != 0"
+    private static void refusesLinkOfUnspecified() {
+        for (int sl : new int[] {1, 90, 65535}) {
+            for (int t : TARGETS) {
+                Unchanged.everywhere(due, "receiveNS(0, " + t + ", " + sl + ")", false, x -> x.receiveNS(0, t, sl));
+            }
+        }
+    }
+
+    private static void acceptsTheEndsOfTheRanges() {
+        for (int t : new int[] {1, 65535}) {
+            NeighborCache x = Make.plain();
+            Make.preferred(x, t);
+            for (int src : new int[] {2, 65534}) {
+                for (int sl : new int[] {1, 65535}) {
+                    int n = x.frameCount();
+                    due.yes("receiveNS(" + src + ", " + t + ", " + sl + ")", x.receiveNS(src, t, sl));
+                    due.entry(x, src, NeighborCache.STALE, sl, 0, 0, 0);
+                    due.frame(x, n, NeighborCache.NA, t, sl, 0, src);
+                    due.is("frameCount()", x.frameCount(), n + 1);
+                }
+            }
+        }
+        NeighborCache x = withPreferred(4);
+        due.yes("receiveNS(1, 5, 65535)", x.receiveNS(1, 5, 65535));
+        due.yes("receiveNS(65535, 5, 1)", x.receiveNS(65535, 5, 1));
+        due.cache(x, 1, 65535);
+    }
+
+    // "t not in the own table, or DUPLICATE: nothing changes"
     private static void ignoresUnknownAndDuplicate() {
-        NeighborCache x = Make.plain();
-        x.addAddress(6);
-        x.receiveNA(6, 0, 0);
-        x.send(9, false);
-        String before = View.of(x);
-        for (int t : new int[] {1, 6, 9, 65535}) {
-            due.yes("receiveNS(0, " + t + ", 0)", x.receiveNS(0, t, 0));
-            due.yes("receiveNS(9, " + t + ", 0)", x.receiveNS(9, t, 0));
-            due.yes("receiveNS(9, " + t + ", 90)", x.receiveNS(9, t, 90));
-            due.yes("receiveNS(65535, " + t + ", 65535)", x.receiveNS(65535, t, 65535));
+        for (int t : new int[] {1, Stage.OWN[NeighborCache.DUPLICATE], Stage.ENTRY[1], 31, Stage.STRANGER, 65535}) {
+            for (int src : new int[] {11, 12, 13, 34, Stage.STRANGER, 65535}) {
+                String call = "receiveNS(" + src + ", " + t + ", ";
+                Unchanged.everywhere(due, call + "0)", true, x -> x.receiveNS(src, t, 0));
+                Unchanged.everywhere(due, call + "90)", true, x -> x.receiveNS(src, t, 90));
+            }
+            Unchanged.everywhere(due, "receiveNS(0, " + t + ", 0)", true, x -> x.receiveNS(0, t, 0));
         }
-        due.same("receiveNS for no own address", View.of(x), before);
     }
 
+    // "TENTATIVE: if src == 0 [...] else nothing changes"
+    private static void keepsTentativeWithSource() {
+        int t = Stage.OWN[NeighborCache.TENTATIVE];
+        for (int src : new int[] {1, 11, 12, 34, Stage.STRANGER, t, 65535}) {
+            for (int sl : new int[] {0, 1, 65535}) {
+                String call = "receiveNS(" + src + ", " + t + ", " + sl + ")";
+                Unchanged.on(Stage.BUSY, due, call, true, x -> x.receiveNS(src, t, sl));
+                Unchanged.on(Stage.FULL, due, call, true, x -> x.receiveNS(src, t, sl));
+            }
+        }
+    }
+
+    // "if src == 0 it becomes DUPLICATE with timer 0"
     private static void endsTentativeByProbe() {
         NeighborCache x = Make.plain();
         x.addAddress(6);
-        Make.ticks(x, 3);
+        // the last tick before it would be PREFERRED
+        Make.ticks(x, 5);
+        due.own(x, 6, NeighborCache.TENTATIVE, 1, 3);
         x.send(9, false);
-        String before = View.of(x);
-        due.yes("receiveNS(9, 6, 0)", x.receiveNS(9, 6, 0));
-        due.yes("receiveNS(9, 6, 90)", x.receiveNS(9, 6, 90));
-        due.same("receiveNS from a known source on TENTATIVE", View.of(x), before);
-        int frames = x.frameCount();
+        String cache = View.cache(x);
+        String frames = View.frames(x);
         due.yes("receiveNS(0, 6, 0)", x.receiveNS(0, 6, 0));
-        due.own(x, 6, NeighborCache.DUPLICATE, 0, 2);
-        due.is("frames by the probe", x.frameCount(), frames);
-        due.cache(x, 9);
+        due.own(x, 6, NeighborCache.DUPLICATE, 0, 3);
+        due.same("receiveNS(0, 6, 0)", View.cache(x), cache);
+        due.same("receiveNS(0, 6, 0)", View.frames(x), frames);
+        x.tick();
+        due.own(x, 6, NeighborCache.DUPLICATE, 0, 3);
     }
 
     // An object whose own address 5 is PREFERRED; three frames, no packet.
@@ -76,15 +141,23 @@ public final class Promise06ReceiveNSTest {
         return x;
     }
 
+    // "if src == 0, NA(t, link 0, hop 0) is emitted and nothing else changes"
     private static void answersUnspecified() {
-        NeighborCache x = withPreferred(4);
-        due.yes("receiveNS(0, 5, 0)", x.receiveNS(0, 5, 0));
-        due.is("frameCount()", x.frameCount(), 4);
-        due.frame(x, 3, NeighborCache.NA, 5, 0, 0, 0);
-        due.own(x, 5, NeighborCache.PREFERRED, 0, 3);
-        due.cache(x);
+        for (Stage stage : new Stage[] {Stage.BUSY, Stage.FULL, Stage.MARKED}) {
+            NeighborCache x = stage.make();
+            NeighborCache twin = stage.make();
+            int n = x.frameCount();
+            due.yes("receiveNS(0, 22, 0)", x.receiveNS(0, 22, 0));
+            due.is("frameCount()", x.frameCount(), n + 1);
+            due.frame(x, n, NeighborCache.NA, 22, 0, 0, 0);
+            due.same("receiveNS(0, 22, 0)", View.cache(x) + View.own(x) + View.routers(x),
+                View.cache(twin) + View.own(twin) + View.routers(twin));
+            due.is("dropped()", x.dropped(), twin.dropped());
+            due.is("next packet id", x.send(51, false), twin.send(51, false));
+        }
     }
 
+    // "(with sl = 0 the link field is 0)"; without a link no entry is made or changed
     private static void answersWithoutLink() {
         NeighborCache x = withPreferred(4);
         due.yes("receiveNS(9, 5, 0) from an unknown source", x.receiveNS(9, 5, 0));
@@ -94,23 +167,38 @@ public final class Promise06ReceiveNSTest {
         due.yes("receiveNS(9, 5, 0) from an INCOMPLETE source", x.receiveNS(9, 5, 0));
         due.frame(x, 5, NeighborCache.NA, 5, 0, 0, 9);
         due.entry(x, 9, NeighborCache.INCOMPLETE, 0, 1, 2, 1);
-        x.receiveNA(9, 90, NeighborCache.FLAG_SOLICITED);
-        due.yes("receiveNS(9, 5, 0) from a REACHABLE source", x.receiveNS(9, 5, 0));
-        due.frame(x, 7, NeighborCache.NA, 5, 0, 0, 9);
-        due.entry(x, 9, NeighborCache.REACHABLE, 90, 0, 10, 0);
-        due.is("frameCount()", x.frameCount(), 8);
+        for (int state = NeighborCache.REACHABLE; state <= NeighborCache.PROBE; state++) {
+            x = withPreferred(4);
+            Make.inState(x, state, 9, 90);
+            String cache = View.cache(x);
+            int n = x.frameCount();
+            due.yes("receiveNS(9, 5, 0) in " + state, x.receiveNS(9, 5, 0));
+            due.frame(x, n, NeighborCache.NA, 5, 0, 0, 9);
+            due.is("frameCount()", x.frameCount(), n + 1);
+            due.same("receiveNS(9, 5, 0)", View.cache(x), cache);
+        }
     }
 
+    // "create entry for src; if created, it enters STALE with link sl"
     private static void createsStale() {
         NeighborCache x = withPreferred(4);
-        due.yes("receiveNS(65535, 5, 65535)", x.receiveNS(65535, 5, 65535));
-        due.yes("receiveNS(1, 5, 1)", x.receiveNS(1, 5, 1));
-        due.cache(x, 65535, 1);
-        due.entry(x, 65535, NeighborCache.STALE, 65535, 0, 0, 0);
-        due.entry(x, 1, NeighborCache.STALE, 1, 0, 0, 0);
+        due.yes("receiveNS(9, 5, 90)", x.receiveNS(9, 5, 90));
+        due.yes("receiveNS(8, 5, 80)", x.receiveNS(8, 5, 80));
+        due.cache(x, 9, 8);
+        due.entry(x, 9, NeighborCache.STALE, 90, 0, 0, 0);
+        due.entry(x, 8, NeighborCache.STALE, 80, 0, 0, 0);
+        due.queue(x, 8);
         due.is("frameCount()", x.frameCount(), 5);
-        due.frame(x, 3, NeighborCache.NA, 5, 65535, 0, 65535);
-        due.frame(x, 4, NeighborCache.NA, 5, 1, 0, 1);
+        due.frame(x, 3, NeighborCache.NA, 5, 90, 0, 9);
+        due.frame(x, 4, NeighborCache.NA, 5, 80, 0, 8);
+        due.is("next packet id", x.send(9, false), 1);
+    }
+
+    private static void createsOnTheLastPlace() {
+        NeighborCache x = withPreferred(2);
+        Make.reachable(x, 8, 80);
+        due.yes("receiveNS(9, 5, 90)", x.receiveNS(9, 5, 90));
+        due.cache(x, 8, 9);
     }
 
     private static void evictsForSource() {
@@ -132,19 +220,21 @@ public final class Promise06ReceiveNSTest {
         due.queue(x, 10);
     }
 
+    // "(if creation fails nothing is created)"; the NA "is emitted even when creation failed"
     private static void answersWhenCreationFails() {
-        NeighborCache x = withPreferred(2);
-        x.send(7, false);
-        x.send(8, false);
-        due.yes("receiveNS(9, 5, 90) without room", x.receiveNS(9, 5, 90));
-        due.cache(x, 7, 8);
-        due.queue(x, 7, 1);
-        due.queue(x, 8, 2);
-        due.is("frameCount()", x.frameCount(), 6);
-        due.frame(x, 5, NeighborCache.NA, 5, 90, 0, 9);
-        due.is("dropped()", x.dropped(), 0);
+        NeighborCache x = Stage.FULL.make();
+        NeighborCache twin = Stage.FULL.make();
+        int n = x.frameCount();
+        due.yes("receiveNS(50, 22, 90) without room", x.receiveNS(50, 22, 90));
+        due.same("receiveNS without room", View.cache(x), View.cache(twin));
+        due.is("frameCount()", x.frameCount(), n + 1);
+        due.frame(x, n, NeighborCache.NA, 22, 90, 0, 50);
+        due.is("dropped()", x.dropped(), twin.dropped());
+        due.same("receiveNS without room", View.routers(x), View.routers(twin));
+        due.is("next packet id", x.send(11, false), twin.send(11, false));
     }
 
+    // "E INCOMPLETE: E.link = sl, enter STALE, flush E"; the NA "is emitted after any DATA frames of a flush"
     private static void resolvesIncomplete() {
         NeighborCache x = withPreferred(4);
         x.addRouter(9);
@@ -160,21 +250,61 @@ public final class Promise06ReceiveNSTest {
         due.is("dropped()", x.dropped(), 0);
     }
 
-    private static void updatesResolved() {
+    private static void flushesAFullQueue() {
+        NeighborCache x = Stage.FULL.make();
+        int n = x.frameCount();
+        int dropped = x.dropped();
+        due.yes("receiveNS(34, 22, 340)", x.receiveNS(34, 22, 340));
+        due.frame(x, n, NeighborCache.DATA, 42, 340, 67, 34);
+        due.frame(x, n + 1, NeighborCache.DATA, 43, 340, 69, 34);
+        due.frame(x, n + 2, NeighborCache.DATA, 44, 340, 71, 34);
+        due.frame(x, n + 3, NeighborCache.NA, 22, 340, 0, 34);
+        due.is("frameCount()", x.frameCount(), n + 4);
+        due.entry(x, 34, NeighborCache.DELAY, 340, 0, 5, 0);
+        due.is("dropped()", x.dropped(), dropped);
+        due.cache(x, 34, 11, 12, 13);
+    }
+
+    // "otherwise nothing changes"
+    private static void keepsResolvedWithTheSameLink() {
         for (int state = NeighborCache.REACHABLE; state <= NeighborCache.PROBE; state++) {
             NeighborCache x = withPreferred(4);
             Make.inState(x, state, 9, 90);
             x.tick();
-            int timer = x.entryInfo(9, NeighborCache.INFO_TIMER);
-            int probes = x.entryInfo(9, NeighborCache.INFO_PROBES);
-            int frames = x.frameCount();
+            String cache = View.cache(x);
+            int n = x.frameCount();
             due.yes("receiveNS(9, 5, 90) in " + state, x.receiveNS(9, 5, 90));
-            due.entry(x, 9, state, 90, 0, timer, probes);
-            due.frame(x, frames, NeighborCache.NA, 5, 90, 0, 9);
+            due.same("receiveNS(9, 5, 90) in " + state, View.cache(x), cache);
+            due.frame(x, n, NeighborCache.NA, 5, 90, 0, 9);
+            due.is("frameCount()", x.frameCount(), n + 1);
+        }
+    }
+
+    // "E in another state with E.link != sl: E.link = sl, enter STALE"
+    private static void updatesResolvedWithAnotherLink() {
+        for (int state = NeighborCache.REACHABLE; state <= NeighborCache.PROBE; state++) {
+            NeighborCache x = withPreferred(4);
+            Make.inState(x, state, 9, 90);
+            x.tick();
+            int n = x.frameCount();
             due.yes("receiveNS(9, 5, 91) in " + state, x.receiveNS(9, 5, 91));
             due.entry(x, 9, NeighborCache.STALE, 91, 0, 0, 0);
-            due.frame(x, frames + 1, NeighborCache.NA, 5, 91, 0, 9);
-            due.is("frames in " + state, x.frameCount(), frames + 2);
+            due.frame(x, n, NeighborCache.NA, 5, 91, 0, 9);
+            due.is("frameCount()", x.frameCount(), n + 1);
+        }
+    }
+
+    // "The own table is changed only as stated, the router list is never changed."
+    private static void leavesOwnTableAndRoutersAlone() {
+        for (Stage stage : new Stage[] {Stage.BUSY, Stage.FULL, Stage.MARKED}) {
+            for (int src : new int[] {11, 12, 13, 14, 15, 21, 22, 23, 31, 34, Stage.STRANGER}) {
+                NeighborCache x = stage.make();
+                NeighborCache twin = stage.make();
+                due.yes("receiveNS(" + src + ", 22, 90)", x.receiveNS(src, 22, 90));
+                due.same("receiveNS from " + src, View.own(x), View.own(twin));
+                due.same("receiveNS from " + src, View.routers(x), View.routers(twin));
+                due.is("dropped()", x.dropped(), twin.dropped());
+            }
         }
     }
 }

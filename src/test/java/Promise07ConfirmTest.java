@@ -3,67 +3,81 @@ public final class Promise07ConfirmTest {
     private static final Due due = new Due();
 
     public static void main(String[] args) {
-        refuses();
+        refusesNotValid();
+        refusesWithoutEntry();
+        refusesIncomplete();
+        acceptsTheEndsOfValid();
         entersReachable();
         leavesTheRestAlone();
         due.end();
     }
 
-    private static void refuses() {
-        NeighborCache x = Make.plain();
-        x.addAddress(5);
-        x.addRouter(7);
-        x.send(9, false);
-        x.tick();
-        String before = View.of(x);
-        for (int a : new int[] {0, -1, 65536, Integer.MIN_VALUE, Integer.MAX_VALUE, 1, 5, 7, 9}) {
-            due.no("confirm(" + a + ")", x.confirm(a));
+    // "It is refused (answers false, nothing changes) if a is not valid"
+    private static void refusesNotValid() {
+        for (int a : Stage.NOT_VALID) {
+            Unchanged.everywhere(due, "confirm(" + a + ")", false, x -> x.confirm(a));
         }
-        due.same("refused confirm", View.of(x), before);
     }
 
+    // "there is no entry for a": a stranger, an own address, a router, an entry that has gone
+    private static void refusesWithoutEntry() {
+        for (int a : new int[] {1, 10, 21, 22, 23, 31, 41, Stage.STRANGER, 65535}) {
+            Unchanged.everywhere(due, "confirm(" + a + ")", false, x -> x.confirm(a));
+        }
+    }
+
+    // "or the entry is INCOMPLETE", its queue full or not
+    private static void refusesIncomplete() {
+        for (int a : new int[] {11, 32}) {
+            Unchanged.on(Stage.BUSY, due, "confirm(" + a + ")", false, x -> x.confirm(a));
+        }
+        for (int a : new int[] {34, 11, 12, 13}) {
+            Unchanged.on(Stage.FULL, due, "confirm(" + a + ")", false, x -> x.confirm(a));
+        }
+    }
+
+    private static void acceptsTheEndsOfValid() {
+        for (int a : new int[] {1, 65535}) {
+            NeighborCache x = Make.plain();
+            Make.stale(x, a, 90);
+            due.yes("confirm(" + a + ")", x.confirm(a));
+            due.entry(x, a, NeighborCache.REACHABLE, 90, 0, 10, 0);
+        }
+    }
+
+    // "the entry enters REACHABLE (timer reachableTime, probes 0; link unchanged)", also with its timer at 1
     private static void entersReachable() {
-        NeighborCache x = Make.plain();
-        Make.reachable(x, 9, 90);
-        Make.ticks(x, 4);
-        due.yes("confirm in REACHABLE", x.confirm(9));
-        due.entry(x, 9, NeighborCache.REACHABLE, 90, 0, 10, 0);
-
-        x = Make.plain();
-        Make.stale(x, 9, 90);
-        due.yes("confirm in STALE", x.confirm(9));
-        due.entry(x, 9, NeighborCache.REACHABLE, 90, 0, 10, 0);
-
-        x = Make.plain();
-        Make.delay(x, 9, 90);
-        due.yes("confirm in DELAY", x.confirm(9));
-        due.entry(x, 9, NeighborCache.REACHABLE, 90, 0, 10, 0);
-
-        x = Make.plain();
-        Make.probe(x, 9, 90);
-        Make.ticks(x, 3);
-        due.entry(x, 9, NeighborCache.PROBE, 90, 0, 1, 2);
-        due.yes("confirm in PROBE", x.confirm(9));
-        due.entry(x, 9, NeighborCache.REACHABLE, 90, 0, 10, 0);
+        int[] ticks = {0, 0, 9, 0, 4, 5};
+        for (int state = NeighborCache.REACHABLE; state <= NeighborCache.PROBE; state++) {
+            NeighborCache x = Make.plain();
+            Make.inState(x, state, 9, 90);
+            Make.ticks(x, ticks[state]);
+            due.entry(x, 9, state, 90, 0, state == NeighborCache.STALE ? 0 : 1,
+                state == NeighborCache.PROBE ? 3 : 0);
+            due.yes("confirm in " + state, x.confirm(9));
+            due.entry(x, 9, NeighborCache.REACHABLE, 90, 0, 10, 0);
+        }
     }
 
+    // "No frame is emitted; the router list (including marks), own table, packet ids and dropped are not changed."
     private static void leavesTheRestAlone() {
+        for (Stage stage : new Stage[] {Stage.BUSY, Stage.MARKED}) {
+            for (int state = NeighborCache.REACHABLE; state <= NeighborCache.DELAY; state++) {
+                NeighborCache x = stage.make();
+                NeighborCache twin = stage.make();
+                due.yes("confirm in " + state, x.confirm(Stage.ENTRY[state]));
+                due.same("confirm in " + state, View.frames(x) + View.routers(x) + View.own(x),
+                    View.frames(twin) + View.routers(twin) + View.own(twin));
+                due.is("dropped()", x.dropped(), twin.dropped());
+                due.is("next packet id", x.send(51, false), twin.send(51, false));
+            }
+        }
         NeighborCache x = new NeighborCache(4, 10, 1, 1);
         x.addRouter(7);
-        x.addAddress(5);
         x.send(7, false);
         x.tick();
-        due.marks(x, 1);
         Make.stale(x, 7, 70);
-        x.send(8, false);
-        int frames = x.frameCount();
         due.yes("confirm of a marked router", x.confirm(7));
         due.marks(x, 1);
-        due.is("frames by confirm", x.frameCount(), frames);
-        due.own(x, 5, NeighborCache.PREFERRED, 0, 1);
-        due.cache(x, 7, 8);
-        due.queue(x, 8, 3);
-        due.is("dropped()", x.dropped(), 1);
-        due.is("next packet id", x.send(8, false), 4);
     }
 }

@@ -3,30 +3,74 @@ public final class Promise14DefaultRouterTest {
     private static final Due due = new Due();
 
     public static void main(String[] args) {
-        NeighborCache x = new NeighborCache(4, 10, 1, 1);
-        due.is("defaultRouter() of an empty list", x.defaultRouter(), 0);
-        x.addRouter(9);
-        due.is("defaultRouter() of one", x.defaultRouter(), 9);
-        x.addRouter(7);
-        x.addRouter(8);
-        due.is("defaultRouter() of three", x.defaultRouter(), 9);
-        failHop(x, 7);
-        due.is("defaultRouter() with the second marked", x.defaultRouter(), 9);
-        failHop(x, 9);
-        due.is("defaultRouter() with two marked", x.defaultRouter(), 8);
-        failHop(x, 8);
-        due.is("defaultRouter() with all marked", x.defaultRouter(), 9);
-        due.marks(x, 1, 1, 1);
-        x.addRouter(6);
-        due.is("defaultRouter() with a new one", x.defaultRouter(), 6);
-        String before = View.of(x);
-        x.defaultRouter();
-        due.same("defaultRouter()", View.of(x), before);
+        answersZeroForAnEmptyList();
+        answersTheFirstUnmarked();
+        answersTheFirstWhenAllAreMarked();
+        answersTheEndsOfValid();
+        changesNothing();
         due.end();
     }
 
-    private static void failHop(NeighborCache x, int hop) {
-        x.send(hop, false);
+    // "0 for an empty list"
+    private static void answersZeroForAnEmptyList() {
+        Unchanged.on(Stage.EMPTY, due, "defaultRouter()", 0, x -> x.defaultRouter());
+        NeighborCache x = Make.plain();
+        x.addAddress(5);
+        x.send(9, false);
+        x.addRouter(0);
+        due.is("defaultRouter() of an empty list", x.defaultRouter(), 0);
+    }
+
+    // Routers 9, 8, 7, ...: marks has bit i for the one at place i.
+    private static NeighborCache withMarks(int routers, int marks) {
+        NeighborCache x = new NeighborCache(4, 10, 1, 1);
+        for (int i = 0; i < routers; i++) {
+            x.addRouter(9 - i);
+            if ((marks >> i & 1) != 0) {
+                x.send(9 - i, false);
+            }
+        }
         x.tick();
+        return x;
+    }
+
+    // "else the first router with mark 0", in every list and with every marks but all
+    private static void answersTheFirstUnmarked() {
+        for (int routers = 1; routers <= 4; routers++) {
+            for (int marks = 0; marks < (1 << routers) - 1; marks++) {
+                int first = Integer.numberOfTrailingZeros(~marks);
+                due.is("defaultRouter() of " + routers + ", marks " + Integer.toBinaryString(marks),
+                    withMarks(routers, marks).defaultRouter(), 9 - first);
+            }
+        }
+    }
+
+    // "else the first router"; "Marks are unchanged"
+    private static void answersTheFirstWhenAllAreMarked() {
+        for (int routers = 1; routers <= 4; routers++) {
+            NeighborCache x = withMarks(routers, (1 << routers) - 1);
+            due.is("defaultRouter() of " + routers + ", all marked", x.defaultRouter(), 9);
+            for (int i = 0; i < routers; i++) {
+                due.is("mark of router " + i, x.routerInfo(i, NeighborCache.ROUTER_MARK), 1);
+            }
+        }
+        NeighborCache x = withMarks(3, 7);
+        x.addRouter(4);
+        due.is("defaultRouter() with a new one", x.defaultRouter(), 4);
+    }
+
+    private static void answersTheEndsOfValid() {
+        for (int r : new int[] {1, 65535}) {
+            NeighborCache x = Make.plain();
+            x.addRouter(r);
+            due.is("defaultRouter()", x.defaultRouter(), r);
+        }
+    }
+
+    // "nothing changes"
+    private static void changesNothing() {
+        Unchanged.on(Stage.BUSY, due, "defaultRouter()", 32, x -> x.defaultRouter());
+        Unchanged.on(Stage.FULL, due, "defaultRouter()", 34, x -> x.defaultRouter());
+        Unchanged.on(Stage.MARKED, due, "defaultRouter()", 31, x -> x.defaultRouter());
     }
 }
