@@ -1,5 +1,5 @@
-// The IPv6 neighbour cache of one host on one link. README.md tells how to use it;
-// the promises named in the comments are those of the document DOC.md.
+// The IPv6 neighbour cache of one host on one link. README.md tells how to use it; the
+// document DOC.md says, as numbered promises, what each method does.
 public final class NeighborCache {
     public static final int REFUSED = -1;
     public static final int NONE = 0;

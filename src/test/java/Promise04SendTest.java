@@ -179,21 +179,20 @@ public final class Promise04SendTest {
         NeighborCache x = Make.plain();
         x.addRouter(7);
         x.addRouter(8);
-        due.is("send(30, true)", x.send(30, true), 1);
-        due.is("send(31, true)", x.send(31, true), 2);
-        due.is("send(7, false)", x.send(7, false), 3);
-        due.is("send(32, true)", x.send(32, true), 4);
+        due.is("send(31, true)", x.send(31, true), 1);
+        due.is("send(7, false)", x.send(7, false), 2);
+        due.is("send(32, true)", x.send(32, true), 3);
         due.cache(x, 7);
-        due.queue(x, 7, 2, 3, 4);
+        due.queue(x, 7, 1, 2, 3);
         due.frame(x, 0, NeighborCache.NS_MULTI, 7, 0, 0, 0);
         due.is("frameCount()", x.frameCount(), 1);
         x.receiveNA(7, 70, NeighborCache.FLAG_SOLICITED);
-        due.frame(x, 1, NeighborCache.DATA, 31, 70, 2, 7);
-        due.frame(x, 2, NeighborCache.DATA, 7, 70, 3, 7);
-        due.frame(x, 3, NeighborCache.DATA, 32, 70, 4, 7);
-        due.is("send(30, true) when resolved", x.send(30, true), 5);
-        due.frame(x, 4, NeighborCache.DATA, 30, 70, 5, 7);
-        due.is("entry of the destination", x.entryInfo(30, NeighborCache.INFO_STATE), NeighborCache.NONE);
+        due.frame(x, 1, NeighborCache.DATA, 31, 70, 1, 7);
+        due.frame(x, 2, NeighborCache.DATA, 7, 70, 2, 7);
+        due.frame(x, 3, NeighborCache.DATA, 32, 70, 3, 7);
+        due.is("send(30, true) when resolved", x.send(30, true), 4);
+        due.frame(x, 4, NeighborCache.DATA, 30, 70, 4, 7);
+        due.cache(x, 7);
     }
 
     // A full list whose first routers are marked, by their failure.

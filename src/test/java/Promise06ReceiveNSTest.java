@@ -15,6 +15,7 @@ public final class Promise06ReceiveNSTest {
         answersWithoutLink();
         createsStale();
         createsOnTheLastPlace();
+        createsForAnOwnAddress();
         evictsForSource();
         answersWhenCreationFails();
         resolvesIncomplete();
@@ -199,6 +200,18 @@ public final class Promise06ReceiveNSTest {
         Make.reachable(x, 8, 80);
         due.yes("receiveNS(9, 5, 90)", x.receiveNS(9, 5, 90));
         due.cache(x, 8, 9);
+    }
+
+    // "no entry for src: create entry for src": the document makes no exception of own addresses
+    private static void createsForAnOwnAddress() {
+        NeighborCache x = withPreferred(4);
+        x.addAddress(6);
+        due.yes("receiveNS(5, 5, 50)", x.receiveNS(5, 5, 50));
+        due.yes("receiveNS(6, 5, 60)", x.receiveNS(6, 5, 60));
+        due.entry(x, 5, NeighborCache.STALE, 50, 0, 0, 0);
+        due.entry(x, 6, NeighborCache.STALE, 60, 0, 0, 0);
+        due.own(x, 5, NeighborCache.PREFERRED, 0, 3);
+        due.own(x, 6, NeighborCache.TENTATIVE, 2, 1);
     }
 
     private static void evictsForSource() {

@@ -19,8 +19,9 @@ enum Stage {
 
     // No stage knows these.
     static final int STRANGER = 50;
-    static final int[] NOT_VALID = {0, -1, -11, 65536, 65536 + 11, 65536 + 21, 65536 + 31,
-        Integer.MIN_VALUE, Integer.MIN_VALUE + 11, Integer.MAX_VALUE};
+    // Some differ from a known address only in bits that a valid one has not.
+    static final int[] NOT_VALID = {0, -1, -11, -12, 65536, 65536 + 11, 65536 + 12, 65536 + 21, 65536 + 22,
+        65536 + 31, Integer.MIN_VALUE, Integer.MIN_VALUE + 12, Integer.MAX_VALUE};
     // As above, but for what may be absent: 0 is then no fault.
     static final int[] OUTSIDE = {-1, -11, 65536, 65536 + 11, Integer.MIN_VALUE, Integer.MAX_VALUE};
 

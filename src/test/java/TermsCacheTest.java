@@ -136,15 +136,19 @@ public final class TermsCacheTest {
     // "There is at most one entry per address.": a full cache makes no room for an address it knows
     private static void keepsOneEntryPerAddress() {
         for (int state = NeighborCache.REACHABLE; state <= NeighborCache.PROBE; state++) {
-            NeighborCache x = sized(2);
-            Make.inState(x, state, 1, 10);
-            x.send(2, false);
-            due.cache(x, 1, 2);
-            x.send(1, false);
-            x.send(2, false);
-            x.receiveNA(1, 11, NeighborCache.FLAG_OVERRIDE);
-            x.confirm(1);
-            due.cache(x, 1, 2);
+            NeighborCache x = sized(3);
+            Make.reachable(x, 1, 10);
+            Make.inState(x, state, 2, 20);
+            x.send(3, false);
+            due.is("state to start from", x.entryInfo(2, NeighborCache.INFO_STATE), state);
+            due.cache(x, 1, 2, 3);
+            for (int a = 1; a <= 3; a++) {
+                x.send(a, false);
+                x.receiveNA(a, 90, NeighborCache.FLAG_OVERRIDE);
+                x.confirm(a);
+                x.send(a, false);
+            }
+            due.cache(x, 1, 2, 3);
             due.is("dropped()", x.dropped(), 0);
         }
         NeighborCache x = new NeighborCache(2, 60, 2, 3);
